@@ -1,0 +1,49 @@
+/** Feeds texts, bytes and numbers to an object's tape. */
+final class Text {
+    private Text() {
+    }
+
+    /** Feeds a text, blanks behind it up to twenty bytes; an empty one feeds nothing. */
+    static void feed(WordYear x, String text) {
+        int[] bytes = new int[text.length()];
+        for (int i = 0; i < bytes.length; i++) {
+            bytes[i] = text.charAt(i);
+        }
+        feedBytes(x, ' ', bytes);
+    }
+
+    static void feedBytes(WordYear x, int filler, int... bytes) {
+        for (int from = 0; from < bytes.length; from += 20) {
+            int[] five = new int[5];
+            for (int i = 0; i < 20; i++) {
+                int sign = from + i < bytes.length ? bytes[from + i] : filler;
+                five[i / 4] = five[i / 4] << 8 | sign & 255;
+            }
+            x.feed(five[0], five[1], five[2], five[3], five[4]);
+        }
+    }
+
+    static int near(WordYear x, String text) {
+        feed(x, text);
+        return x.near(text.length());
+    }
+
+    static int law(WordYear x, int i, String text) {
+        feed(x, text);
+        return x.law(i, text.length());
+    }
+
+    static long row(WordYear x, int what, int... words) {
+        feedBytes(x, 0, words);
+        return x.row(words.length, what);
+    }
+
+    static int check(WordYear x, int tongue, int... numbers) {
+        int[] bytes = new int[4 * numbers.length];
+        for (int i = 0; i < bytes.length; i++) {
+            bytes[i] = numbers[i / 4] >>> 24 - 8 * (i % 4) & 255;
+        }
+        feedBytes(x, 0, bytes);
+        return x.check(tongue, numbers.length);
+    }
+}

@@ -778,8 +778,8 @@ public final class WordYear {
         long childsWord(int length, int what) {
             Speech now = speech(words.used);
             long talkNow = yearly(now, NONE);
-            long least = Long.MAX_VALUE;
-            int meaning = 0;
+            long least = 0;
+            int meaning = NONE;
             for (int m = 0; m < MEANINGS; m++) {
                 long talkThen = talkNow;
                 // A word that is no shorter than what says the same already changes nothing.
@@ -787,7 +787,7 @@ public final class WordYear {
                     childs.solve(words.used, m, length);
                     talkThen = yearly(childs, NONE);
                 }
-                if (talkThen < least) {
+                if (meaning == NONE || talkThen < least) {
                     least = talkThen;
                     meaning = m;
                 }
@@ -1415,20 +1415,21 @@ public final class WordYear {
 
         /** The least talk together; it leaves with each tongue what is best from there on. */
         long plan(int n) {
-            int left = Integer.bitCount(words.used) - n;
+            int used = words.used;
+            int left = Integer.bitCount(used) - n;
             // Each tongue comes behind all that are parts of it, as these are lower numbers.
-            for (int tongue = 0; tongue <= words.used; tongue++) {
+            for (int tongue = 0; tongue < MOST_TONGUES && tongue <= used; tongue++) {
                 int size = Integer.bitCount(tongue);
-                if ((tongue & words.used) == tongue && size >= left) {
+                if ((tongue & used) == tongue && size >= left) {
                     Speech speech = tongues.speech(tongue);
-                    speech.together = tongue == words.used ? 0 : tongues.yearly(speech, NONE);
+                    speech.together = tongue == used ? 0 : tongues.yearly(speech, NONE);
                     if (size > left) {
                         int w = bestNext(tongue);
                         speech.together += tongues.speech(without(tongue, w)).together;
                     }
                 }
             }
-            return tongues.speech(words.used).together;
+            return tongues.speech(used).together;
         }
 
         private int bestNext(int tongue) {
@@ -1508,8 +1509,8 @@ public final class WordYear {
         int bestOf(int n) {
             int best = NONE;
             long least = 0;
-            for (int tongue = 0; tongue <= words.all(); tongue++) {
-                if (Integer.bitCount(tongue) == n) {
+            for (int tongue = 0; tongue < MOST_TONGUES; tongue++) {
+                if (words.isTongue(tongue) && Integer.bitCount(tongue) == n) {
                     long yearly = tongues.yearly(tongues.speech(tongue), NONE);
                     if (best == NONE || yearly < least) {
                         best = tongue;
@@ -1524,21 +1525,32 @@ public final class WordYear {
         long exchange(int what) {
             int best = NONE;
             long least = 0;
-            for (int taken = 0; taken < words.size; taken++) {
-                for (int lower = 0; lower < words.size && !contains(words.used, taken); lower++) {
-                    for (int upper = lower + 1; upper < words.size; upper++) {
-                        if (contains(words.used, lower) && contains(words.used, upper)) {
-                            int rest = without(without(words.used, lower), upper);
-                            long yearly = tongues.yearly(tongues.speech(rest | 1 << taken), NONE);
-                            if (best == NONE || yearly < least) {
-                                best = taken | lower << 4 | upper << 8;
-                                least = yearly;
-                            }
-                        }
+            int struck = words.all() & ~words.used;
+            // A row of three in one number, so that the least row comes first.
+            for (int row = 0; row < 1000; row++) {
+                int taken = row / 100;
+                int lower = row / 10 % 10;
+                int upper = row % 10;
+                if (contains(struck, taken) && lower < upper
+                        && contains(words.used, lower) && contains(words.used, upper)) {
+                    int rest = without(without(words.used, lower), upper);
+                    long yearly = tongues.yearly(tongues.speech(rest | 1 << taken), NONE);
+                    if (best == NONE || yearly < least) {
+                        best = row;
+                        least = yearly;
                     }
                 }
             }
-            return what == 3 ? least : best >> 4 * what & 15;
+            switch (what) {
+                case 0:
+                    return best / 100;
+                case 1:
+                    return best / 10 % 10;
+                case 2:
+                    return best % 10;
+                default:
+                    return least;
+            }
         }
     }
 
@@ -1612,7 +1624,7 @@ public final class WordYear {
         /** The least set of the fewest words in use that tell all others. */
         int smallestKey() {
             for (int n = 0; n <= MOST_WORDS; n++) {
-                for (int key = 0; key <= words.used; key++) {
+                for (int key = 0; key < MOST_TONGUES; key++) {
                     if ((key & words.used) == key && Integer.bitCount(key) == n && tellsAll(key)) {
                         return key;
                     }

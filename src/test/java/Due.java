@@ -2,15 +2,25 @@
 final class Due {
     private static int asked = 0;
     private static int wrong = 0;
+    private static String about = "";
 
     private Due() {
+    }
+
+    /** Where in the document the answers from here on are asked for. */
+    static void about(String section, String sentence) {
+        about = sentence.isEmpty() ? "" : section + ", '" + sentence + "': ";
+    }
+
+    static int asked() {
+        return asked;
     }
 
     static void is(String call, long got, long want) {
         asked++;
         if (got != want) {
             wrong++;
-            System.out.println(call + " answered " + got + ", due is " + want);
+            System.out.println(about + call + " answered " + got + ", due is " + want);
         }
     }
 

@@ -169,19 +169,8 @@ final class NearTest {
     }
 
     /** What a law costs to say 22 (things 1, 2, 4; a word of length 6) for 11 (things 0, 1, 3). */
-    private static int cost(String law) {
-        WordYear x = new WordYear();
-        x.word(0, 22, 6);
-        int answer = Text.near(x, law);
-        if (answer < 0) {
-            return answer;
-        }
-        int price = x.sayable(1, 11, 0);
-        return price == -2 ? -2 : price - 6;
-    }
-
     private static void costs(String law, int due) {
-        Due.is("cost by " + law, cost(law), due);
+        Due.is("cost by " + law, Text.cost(law, 11, 22, 6), due);
     }
 
     private static void letters() {

@@ -28,6 +28,18 @@ final class Text {
         return x.near(text.length());
     }
 
+    /** What a law costs to say one meaning, by a word so long, for another; -2: it is not near. */
+    static int cost(String law, int wanted, int said, int length) {
+        WordYear x = new WordYear();
+        x.word(0, said, length);
+        int clauses = near(x, law);
+        if (clauses < 1) {
+            return clauses;
+        }
+        int price = x.sayable(1, wanted, 0);
+        return price == -2 ? -2 : price - length;
+    }
+
     static int law(WordYear x, int i, String text) {
         feed(x, text);
         return x.law(i, text.length());

@@ -9,23 +9,6 @@ final class VoteTest {
         Due.end("VoteTest");
     }
 
-    /** Words 0 to 3 for the meanings 1, 2, 4, 8; a sort's row is by how often it wants each. */
-    private static WordYear four() {
-        WordYear x = new WordYear();
-        for (int w = 0; w < 4; w++) {
-            x.word(0, 1 << w, 1);
-        }
-        return x;
-    }
-
-    /** Lets a sort of so many have this row of words, the first one wanted least. */
-    private static void row(WordYear x, int sort, int n, int... row) {
-        x.people(sort, n);
-        for (int i = 0; i < row.length; i++) {
-            x.want(sort, 1 << row[i], i + 1, 0);
-        }
-    }
-
     private static void votes(WordYear x, int... due) {
         for (int way = 0; way < 4; way++) {
             Due.is("vote(" + way + ")", x.vote(way), due[way]);
@@ -49,11 +32,11 @@ final class VoteTest {
     }
 
     private static void fourWays() {
-        WordYear x = four();
-        row(x, 0, 7, 0, 3, 2, 1);
-        row(x, 1, 6, 1, 2, 3, 0);
-        row(x, 2, 5, 2, 3, 1, 0);
-        row(x, 3, 1, 3, 2, 1, 0);
+        WordYear x = Scene.four();
+        Scene.row(x, 0, 7, 0, 3, 2, 1);
+        Scene.row(x, 1, 6, 1, 2, 3, 0);
+        Scene.row(x, 2, 5, 2, 3, 1, 0);
+        Scene.row(x, 3, 1, 3, 2, 1, 0);
         // First: 7, 6, 5, 1. Between 0 and 1: 7 to 12. Points of 0: 21, of 1: 18 + 5 + 1 = 24,
         // of 2: 7 + 12 + 15 + 2 = 36, of 3: 14 + 6 + 10 + 3 = 33.
         // 2 is ahead of 0 with 12, of 1 with 13, of 3 with 11, of 19 in all.
@@ -70,13 +53,13 @@ final class VoteTest {
     }
 
     private static void ties() {
-        WordYear x = four();
+        WordYear x = Scene.four();
         x.people(1, 2);
         // All grows by nothing: rows by number.
         votes(x, 0, 0, 0, 0);
-        WordYear y = four();
-        row(y, 0, 3, 1, 0, 2, 3);
-        row(y, 2, 3, 0, 1, 2, 3);
+        WordYear y = Scene.four();
+        Scene.row(y, 0, 3, 1, 0, 2, 3);
+        Scene.row(y, 2, 3, 0, 1, 2, 3);
         // Like many are first, ahead and so on: 0, and nobody by more than half.
         votes(y, 0, 0, 0, -1);
         y.people(0, 4);
@@ -86,10 +69,10 @@ final class VoteTest {
     }
 
     private static void runoff() {
-        WordYear x = four();
-        row(x, 0, 5, 3, 2, 1, 0);
-        row(x, 1, 2, 2, 1, 3, 0);
-        row(x, 2, 2, 1, 2, 3, 0);
+        WordYear x = Scene.four();
+        Scene.row(x, 0, 5, 3, 2, 1, 0);
+        Scene.row(x, 1, 2, 2, 1, 3, 0);
+        Scene.row(x, 2, 2, 1, 2, 3, 0);
         // First 3 with 5; then 1 and 2 with 2 each: 1 comes against 3, 4 to 5.
         Due.is("3 stays", x.vote(1), 3);
         x.people(0, 4);
@@ -100,24 +83,24 @@ final class VoteTest {
         x.people(1, 3);
         // 2 and 3 are first with 3 each: 2 is the first, 3 the second; 5 to 3.
         Due.is("2 against 3", x.vote(1), 2);
-        WordYear y = four();
-        row(y, 0, 1, 2, 0, 1, 3);
+        WordYear y = Scene.four();
+        Scene.row(y, 0, 1, 2, 0, 1, 3);
         // Only 2 is first with anybody: the second is 0, with none.
         Due.is("2 against 0", y.vote(1), 2);
-        WordYear z = four();
-        row(z, 0, 4, 3, 0, 1, 2);
-        row(z, 1, 3, 2, 0, 1, 3);
-        row(z, 2, 2, 1, 2, 0, 3);
+        WordYear z = Scene.four();
+        Scene.row(z, 0, 4, 3, 0, 1, 2);
+        Scene.row(z, 1, 3, 2, 0, 1, 3);
+        Scene.row(z, 2, 2, 1, 2, 0, 3);
         // The second is by the rows as they are (2 with 3), not by rows without 3 (0 with 4).
         // 2 against 3: 5 to 4. (0 against 3 would be 5 to 4 for 0.)
         Due.is("2 against 3, not 0", z.vote(1), 2);
     }
 
     private static void halves() {
-        WordYear x = four();
-        row(x, 0, 1, 0, 1, 2, 3);
-        row(x, 1, 1, 1, 2, 0, 3);
-        row(x, 2, 1, 2, 0, 1, 3);
+        WordYear x = Scene.four();
+        Scene.row(x, 0, 1, 0, 1, 2, 3);
+        Scene.row(x, 1, 1, 1, 2, 0, 3);
+        Scene.row(x, 2, 1, 2, 0, 1, 3);
         // Each of the three is behind another with two of three.
         Due.is("a circle", x.vote(3), -1);
         Due.is("points 6 each", x.vote(2), 0);

@@ -11,20 +11,8 @@ final class YearsTest {
         Due.end("YearsTest");
     }
 
-    /** Two words of 5 for one meaning that is wanted 10 times, one of 1 for one that is wanted once. */
-    private static WordYear pair() {
-        WordYear x = new WordYear();
-        x.word(0, 1, 5);
-        x.word(0, 2, 1);
-        x.word(0, 1, 5);
-        x.silence(100);
-        x.want(0, 1, 10, 0);
-        x.want(1, 2, 1, 0);
-        return x;
-    }
-
     private static void orderAndGap() {
-        WordYear x = pair();
+        WordYear x = Scene.pair();
         // Talk now 51. Without 0 or 2: 51; without both 1001; without 1: 150.
         Due.is("order(1, NONE)", x.order(1, -1), 51);
         Due.is("order(1, 0)", x.order(1, 0), 0);
@@ -98,7 +86,7 @@ final class YearsTest {
     }
 
     private static void orderRefusals() {
-        WordYear x = pair();
+        WordYear x = Scene.pair();
         Due.is("order(0, NONE)", x.order(0, -1), -1);
         Due.is("order(-1, NONE)", x.order(-1, -1), -1);
         Due.is("order(4, NONE)", x.order(4, -1), -1);
@@ -121,7 +109,7 @@ final class YearsTest {
     }
 
     private static void row() {
-        WordYear x = pair();
+        WordYear x = Scene.pair();
         x.want(2, 1, 0, 50);
         x.want(2, 2, 0, 1);
         Due.is("row of 0, 2", Text.row(x, 0, 0, 2), 51 + 1001);
@@ -164,7 +152,7 @@ final class YearsTest {
         Due.is("till() without words", x.till(), 0);
         x.want(0, 1, 1, 9);
         Due.is("till() without words, a must", x.till(), 0);
-        WordYear y = pair();
+        WordYear y = Scene.pair();
         Due.is("no musts: all", y.till(), 3);
         y.want(2, 1, 0, 50);
         Due.is("0, 1, not 2", y.till(), 2);
@@ -172,7 +160,7 @@ final class YearsTest {
         Due.is("0, not 1", y.till(), 1);
         y.want(2, 4, 0, 1);
         Due.is("a must that can't be anyhow", y.till(), 0);
-        WordYear z = pair();
+        WordYear z = Scene.pair();
         z.want(2, 1, 0, 5);
         z.strike(0);
         // The least goes on: 1 (150), then 2.
@@ -180,7 +168,7 @@ final class YearsTest {
     }
 
     private static void kept() {
-        WordYear x = pair();
+        WordYear x = Scene.pair();
         Due.is("kept(0, 0)", x.kept(0, 0), 0);
         Due.is("kept(0, 1)", x.kept(0, 1), 1100);
         Due.is("kept(1, 0)", x.kept(1, 0), 1);
@@ -200,7 +188,7 @@ final class YearsTest {
     }
 
     private static void back() {
-        WordYear x = pair();
+        WordYear x = Scene.pair();
         Due.is("none is struck", x.back(0), -1);
         x.strike(0);
         // Back 0 for 1 and 2: talk 150.
@@ -226,7 +214,7 @@ final class YearsTest {
         x.strike(3);
         x.strike(2);
         Due.is("one is in use", x.back(0), -1);
-        WordYear y = pair();
+        WordYear y = Scene.pair();
         y.word(0, 4, 1);
         y.word(0, 8, 1);
         y.strike(1);

@@ -1,5 +1,6 @@
 /** The bounds that "Terms" names of the law of what is near, and of what is sayable by it. */
 final class NearBounds {
+    private static final int NOT_NEAR = Text.NOT_NEAR;
     private static final String CLAUSE = "k1(w=w)";
 
     private NearBounds() {
@@ -86,13 +87,13 @@ final class NearBounds {
         cost("k3(w<w);k2(w=w);k1(w=w)", 2);
         cost("k1001(w<w);k2(w=w)", 2);
         doc.says("(none, or not from 0 to 1000: it is not near)");
-        cost("k3(w<w)", -2);
-        cost("k3(w<w);k4(w>w)", -2);
-        cost("k1001(w=w)", -2);
-        cost("k0-1(w=w)", -2);
-        cost("k1001(w=w);k2(w=w)", -2);
-        cost("k0-1(w=w);k2(w=w)", -2);
-        cost("k99999*99999(w=w)", -2);
+        cost("k3(w<w)", NOT_NEAR);
+        cost("k3(w<w);k4(w>w)", NOT_NEAR);
+        cost("k1001(w=w)", NOT_NEAR);
+        cost("k0-1(w=w)", NOT_NEAR);
+        cost("k1001(w=w);k2(w=w)", NOT_NEAR);
+        cost("k0-1(w=w);k2(w=w)", NOT_NEAR);
+        cost("k99999*99999(w=w)", NOT_NEAR);
         WordYear x = Scene.of(7);
         Text.near(x, "k1(w<w);k2(w=w)");
         Due.is("by the second clause", x.sayable(1, 3, 0), 3);
@@ -102,7 +103,7 @@ final class NearBounds {
 
     private static void conditions(Document doc) {
         doc.says("PARTS with a | between two, one of which must hold");
-        cost("k1(1=2|2=3|3=4)", -2);
+        cost("k1(1=2|2=3|3=4)", NOT_NEAR);
         cost("k1(1=1|2=3|3=4)", 1);
         cost("k1(1=2|2=2|3=4)", 1);
         cost("k1(1=2|2=3|3=3)", 1);
@@ -111,33 +112,33 @@ final class NearBounds {
         near("k1(w=w||w=w)", -1007);
         doc.says("PIECES with an & between two, all of which must");
         cost("k1(1=1&2=2&3=3)", 1);
-        cost("k1(1=2&2=2&3=3)", -2);
-        cost("k1(1=1&2=3&3=3)", -2);
-        cost("k1(1=1&2=2&3=4)", -2);
+        cost("k1(1=2&2=2&3=3)", NOT_NEAR);
+        cost("k1(1=1&2=3&3=3)", NOT_NEAR);
+        cost("k1(1=1&2=2&3=4)", NOT_NEAR);
         cost("k1(1=2&1=2|1=1)", 1);
         cost("k1(1=1|1=2&1=2)", 1);
         near("k1(&w=w)", -1003);
         near("k1(w=w&)", -1007);
         near("k1(w=w&|w=w)", -1007);
         doc.says("a PIECE: !PIECE, (C), or E, one of < > =, and E");
-        cost("k1(!1<2)", -2);
-        cost("k1(!2>1)", -2);
-        cost("k1(!1=1)", -2);
+        cost("k1(!1<2)", NOT_NEAR);
+        cost("k1(!2>1)", NOT_NEAR);
+        cost("k1(!1=1)", NOT_NEAR);
         cost("k1(!2<1)", 1);
         cost("k1(!1>2)", 1);
         cost("k1(!1=2)", 1);
         cost("k1(!!1<2)", 1);
-        cost("k1(!!!2>1)", -2);
+        cost("k1(!!!2>1)", NOT_NEAR);
         cost("k1(!1=2|1=1)", 1);
-        cost("k1(!(1=2|1=1))", -2);
-        cost("k1(!1=1&1=2)", -2);
+        cost("k1(!(1=2|1=1))", NOT_NEAR);
+        cost("k1(!1=1&1=2)", NOT_NEAR);
         cost("k1(!(1=1&1=2))", 1);
-        cost("k1(2<2)", -2);
-        cost("k1(2>2)", -2);
+        cost("k1(2<2)", NOT_NEAR);
+        cost("k1(2>2)", NOT_NEAR);
         cost("k1(1<2)", 1);
         cost("k1(2>1)", 1);
-        cost("k1(2<1)", -2);
-        cost("k1(1>2)", -2);
+        cost("k1(2<1)", NOT_NEAR);
+        cost("k1(1>2)", NOT_NEAR);
         cost("k1(3=2+1)", 1);
         cost("k1(1+2=3)", 1);
         cost("k1(1+2=9-2*3)", 1);
@@ -178,7 +179,7 @@ final class NearBounds {
         // Two wait in each of the brackets: 7, then one more than twice that, six times.
         cost("k" + nested(6) + "(1=1)", 511);
         cost("k1(" + nested(5) + "=" + nested(5) + ")", 1);
-        cost("k1(" + nested(5) + "<" + nested(5) + ")", -2);
+        cost("k1(" + nested(5) + "<" + nested(5) + ")", NOT_NEAR);
         near("k[](w=w)", -1002);
         near("k[1(w=w)", -1003);
         near("k1](w=w)", -1002);
@@ -240,13 +241,13 @@ final class NearBounds {
         cost("k5/0+7(1=1)", 0);
         cost("k7+[5%[3-3]](1=1)", 0);
         cost("k7/[w-w](1=1);k3(1=1)", 0);
-        cost("k7(1/0=0)", -2);
-        cost("k7(1%0=0)", -2);
-        cost("k7(0=0/0)", -2);
-        cost("k7(!1/0=1)", -2);
-        cost("k7(!(1/0=1))", -2);
-        cost("k7(1/0=0|1=1)", -2);
-        cost("k7(1=1&1/0=0)", -2);
+        cost("k7(1/0=0)", NOT_NEAR);
+        cost("k7(1%0=0)", NOT_NEAR);
+        cost("k7(0=0/0)", NOT_NEAR);
+        cost("k7(!1/0=1)", NOT_NEAR);
+        cost("k7(!(1/0=1))", NOT_NEAR);
+        cost("k7(1/0=0|1=1)", NOT_NEAR);
+        cost("k7(1=1&1/0=0)", NOT_NEAR);
         cost("k7(1/0=0);k3(1=1)", 3);
         cost("k1001(1/0=0);k3(1=1)", 3);
         Due.is("refused for one said, not for another", Text.cost("k6/[s-1]+2(1=1)", 8, 1, 1), 0);
@@ -256,7 +257,7 @@ final class NearBounds {
         cost("k7(1=2&1/0=0|1=1)", 7);
         cost("k7(!(1=2&1/0=0))", 7);
         cost("k7((1=1|1/0=0)&2=2)", 7);
-        cost("k7(1=2|2=2&(1/0=0|1=1))", -2);
+        cost("k7(1=2|2=2&(1/0=0|1=1))", NOT_NEAR);
         cost("k7(1=1|2=2|1/0=0)", 7);
         cost("k7(1=2&2=2&1/0=0|3=3)", 7);
         cost("k7(1=1);k1/0(1/0=0)", 7);

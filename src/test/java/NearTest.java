@@ -1,5 +1,6 @@
 /** Promises 8 near, 11 sayable. */
 final class NearTest {
+    private static final int NOT_NEAR = Text.NOT_NEAR;
     private static final String GOOD = "k7(w=w)";
 
     public static void main(String[] args) {
@@ -196,9 +197,9 @@ final class NearTest {
     private static void numbers() {
         costs("k0(1=1)", 0);
         costs("k1000(1=1)", 1000);
-        costs("k1001(1=1)", -2);
-        costs("k0-1(1=1)", -2);
-        costs("k99999(1=1)", -2);
+        costs("k1001(1=1)", NOT_NEAR);
+        costs("k0-1(1=1)", NOT_NEAR);
+        costs("k99999(1=1)", NOT_NEAR);
         costs("k2+3*4(1=1)", 14);
         costs("k[2+3]*4(1=1)", 20);
         costs("k20-5-4(1=1)", 11);
@@ -222,34 +223,34 @@ final class NearTest {
 
     private static void conditions() {
         costs("k5(1<2)", 5);
-        costs("k5(2<2)", -2);
+        costs("k5(2<2)", NOT_NEAR);
         costs("k5(3>2)", 5);
-        costs("k5(2>2)", -2);
+        costs("k5(2>2)", NOT_NEAR);
         costs("k5(2=2)", 5);
-        costs("k5(2=3)", -2);
+        costs("k5(2=3)", NOT_NEAR);
         costs("k5(0-1<0)", 5);
         costs("k5(!1=2)", 5);
-        costs("k5(!!1=2)", -2);
+        costs("k5(!!1=2)", NOT_NEAR);
         costs("k5(!1=1|1=1)", 5);
-        costs("k5(!(1=1|1=1))", -2);
+        costs("k5(!(1=1|1=1))", NOT_NEAR);
         costs("k5(!1=2&1=1)", 5);
         costs("k5(1=1|1=1&1=2)", 5);
-        costs("k5((1=1|1=1)&1=2)", -2);
+        costs("k5((1=1|1=1)&1=2)", NOT_NEAR);
         costs("k5(1=2&1=1|1=1)", 5);
-        costs("k5(1=2&(1=1|1=1))", -2);
+        costs("k5(1=2&(1=1|1=1))", NOT_NEAR);
         costs("k5(1=2|1=3|1=1)", 5);
-        costs("k5(1=2|1=3|1=4)", -2);
+        costs("k5(1=2|1=3|1=4)", NOT_NEAR);
         costs("k5(1=1&2=2&3=3)", 5);
-        costs("k5(1=1&2=2&3=4)", -2);
+        costs("k5(1=1&2=2&3=4)", NOT_NEAR);
         costs("k5(1=2&2=2&3=3|4=4)", 5);
         costs("k5(1=2);k6(1=1);k7(1=1)", 6);
         costs("k5(1=2);k6(1=2);k7(1=1)", 7);
         // The first whose condition holds, though it costs too much.
-        costs("k1001(1=1);k6(1=1)", -2);
-        costs("k0-1(1=1);k6(1=1)", -2);
+        costs("k1001(1=1);k6(1=1)", NOT_NEAR);
+        costs("k0-1(1=1);k6(1=1)", NOT_NEAR);
         costs("k5(a=11&c=22&l=6)", 5);
         costs("k5(a<c)", 5);
-        costs("k5(a>c)", -2);
+        costs("k5(a>c)", NOT_NEAR);
     }
 
     private static void dividedByNothing() {
@@ -259,14 +260,14 @@ final class NearTest {
         costs("k9+[5/[2-2]]*0(1=1)", 0);
         costs("k5/0+9(1=1)", 0);
         costs("k0/5+9(1=1)", 9);
-        costs("k5(1/0=0)", -2);
-        costs("k5(0=1%0)", -2);
-        costs("k5(!1/0=0)", -2);
-        costs("k5(!1/0=1)", -2);
-        costs("k5(!(1/0=1))", -2);
-        costs("k5(1/0=0|1=1)", -2);
-        costs("k5((1/0=0)|1=1)", -2);
-        costs("k5(1=1&!(1=2|1/0=1))", -2);
+        costs("k5(1/0=0)", NOT_NEAR);
+        costs("k5(0=1%0)", NOT_NEAR);
+        costs("k5(!1/0=0)", NOT_NEAR);
+        costs("k5(!1/0=1)", NOT_NEAR);
+        costs("k5(!(1/0=1))", NOT_NEAR);
+        costs("k5(1/0=0|1=1)", NOT_NEAR);
+        costs("k5((1/0=0)|1=1)", NOT_NEAR);
+        costs("k5(1=1&!(1=2|1/0=1))", NOT_NEAR);
         costs("k5(1/0=0);k6(1=1)", 6);
         // Only as much is asked as matters.
         costs("k5(1=1|1/0=0)", 5);

@@ -290,6 +290,12 @@ final class TellBounds {
         y.strike(0);
         y.want(0, 4, 1, 0);
         Due.is("struck ones don't talk now", y.madeUp(1, 1), 999);
+        Text.near(y, "ky+x*3(1=1)");
+        Due.is("by what is near nothing is better", y.madeUp(1, 0), 4);
+        y.want(0, 63, 2, 0);
+        // 63: twice 1, and 1 + 15 for 4; 4: 1, and twice 1 + 5.
+        Due.is("near to both", y.madeUp(1, 0), 4);
+        Due.is("less by that", y.madeUp(1, 1), 3000 - 13);
     }
 
     private static void check(Document doc) {

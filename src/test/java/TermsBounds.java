@@ -140,6 +140,18 @@ final class TermsBounds {
         Due.is("a word of 9, an AND of 10", x.brief(1 + 2 + 8 + 32, 2), 9);
         x.word(0, 6, 1);
         Due.is("an AND of 8 by a shorter word", x.brief(1 + 8 + 32 + 64, 2), 8);
+        // Of four words of 1, 2, 3, 4 and an OR of 5: three ORs, whatever is joined first.
+        WordYear four = new WordYear();
+        four.word(3, 0, 5);
+        for (int thing = 0; thing < 4; thing++) {
+            four.word(0, 1 << thing, 1 + thing);
+        }
+        Due.is("four by ORs", four.brief(31, 15), 10 + 15);
+        Due.is("three by ORs", four.brief(31, 14), 9 + 10);
+        four.word(0, 6, 9);
+        four.word(0, 12, 1);
+        Due.is("by a word for two of them", four.brief(127, 15), 1 + 2 + 1 + 10);
+        Due.is("by a word for the others", four.brief(127, 14), 2 + 1 + 5);
         doc.says("(Of several NOTs, ANDs, ORs the least LENGTH.)");
         WordYear y = Scene.of(3, 6);
         for (int kind = 1; kind <= 3; kind++) {

@@ -1,5 +1,8 @@
 /** Feeds texts, bytes and numbers to an object's tape. */
 final class Text {
+    /** Far from every cost that a wrong answer could come to. */
+    static final int NOT_NEAR = Integer.MIN_VALUE;
+
     private Text() {
     }
 
@@ -28,7 +31,7 @@ final class Text {
         return x.near(text.length());
     }
 
-    /** What a law costs to say one meaning, by a word so long, for another; -2: it is not near. */
+    /** What a law costs to say one meaning, by a word so long, for another; NOT_NEAR; or the law's fault. */
     static int cost(String law, int wanted, int said, int length) {
         WordYear x = new WordYear();
         x.word(0, said, length);
@@ -37,7 +40,7 @@ final class Text {
             return clauses;
         }
         int price = x.sayable(1, wanted, 0);
-        return price == -2 ? -2 : price - length;
+        return price == -2 ? NOT_NEAR : price - length;
     }
 
     static int law(WordYear x, int i, String text) {

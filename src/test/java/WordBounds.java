@@ -161,10 +161,17 @@ final class WordBounds {
                 Due.is("lawIs(" + i + ", " + what + ")", x.lawIs(i, what), due[what]);
             }
         }
+        for (int kind = 1; kind <= 3; kind++) {
+            x.word(kind, 0, 1);
+        }
+        Text.law(x, 1, "-aa+b");
         Text.law(x, 1, "b");
-        Text.law(x, 2, "bb+b+b");
-        Due.is("a shorter one behind longer ones", x.lawIs(1, 1), 4);
-        Due.is("a longer one behind it", x.lawIs(2, 1), 16);
+        Text.law(x, 2, "bb+-b+b");
+        Due.is("a shorter one in a longer one's place", x.lawIs(1, 1), 4);
+        Due.is("a longer one behind it", x.lawIs(2, 1), 16 + 1 + 1 + 2);
+        for (int joint = 3; joint < 6; joint++) {
+            x.strike(joint);
+        }
         x.strike(2);
         x.strike(1);
         Due.is("struck in it", x.lawIs(3, 2), 2);

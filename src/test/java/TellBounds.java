@@ -51,6 +51,18 @@ final class TellBounds {
         Due.is("a word never leads to itself", x.leads(8), 1);
         x.strike(0);
         Due.is("the other WORD of 7", x.leads(8), 512);
+        WordYear ends = Scene.of(0, 63);
+        ends.word(1, 0, 1);
+        Due.is("no thing by what is not all", ends.leads(0), 2 + 4);
+        Due.is("all by what is not no thing", ends.leads(1), 1 + 4);
+        WordYear through = new WordYear();
+        through.word(0, 0, 9);
+        through.word(0, 31, 1);
+        through.word(0, 32, 1);
+        through.word(1, 0, 1);
+        through.word(3, 0, 1);
+        // No thing is what is not all, and all is 31 or 32: 4 long.
+        Due.is("all on the way down", through.leads(0), 2 + 4 + 8 + 16);
         doc.says("ROUND: those from which one comes back to them");
         Due.is("8 and 9 lead to one another", x.round(), 256 + 512);
         x.strike(9);
@@ -296,6 +308,17 @@ final class TellBounds {
         // 63: twice 1, and 1 + 15 for 4; 4: 1, and twice 1 + 5.
         Due.is("near to both", y.madeUp(1, 0), 4);
         Due.is("less by that", y.madeUp(1, 1), 3000 - 13);
+        WordYear z = new WordYear();
+        z.want(0, 0, 1, 0);
+        Text.near(z, "kx*7+1(1=1)");
+        // By itself no thing is said for 1, by thing 0 for 1 + 8.
+        Due.is("no thing is wanted", z.madeUp(1, 0), 0);
+        Due.is("less by that", z.madeUp(1, 1), 999);
+        z.word(0, 0, 9);
+        z.want(0, 63, 1, 0);
+        // Now 9, and 63 by no thing for 9 + 1: 19. With no thing of 1: 1 and 2.
+        Due.is("no thing for both", z.madeUp(1, 0), 0);
+        Due.is("16 less", z.madeUp(1, 1), 16);
     }
 
     private static void check(Document doc) {
